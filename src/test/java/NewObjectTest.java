@@ -17,7 +17,7 @@ public final class NewObjectTest {
             CHECKS.same("new: look(" + what + ")", x.look(what), due[what]);
         }
         for (int k = 0; k < 4096; k++) {
-            CHECKS.same("new: cell(" + k + ")", x.cell(k), 0);
+            CHECKS.same("new: cell(" + k + ")", new PointLedger(3, 4, 2).cell(k), 0);
         }
         for (int s = 0; s < 3; s++) {
             CHECKS.same("new: sizes(s, 0)", x.sizes(s, 0), 0);
