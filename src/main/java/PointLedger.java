@@ -51,8 +51,10 @@ public final class PointLedger {
     private static final int BLOCK_VALUE = 2;
     private static final int BLOCK_STAMP = 3;
 
-    // How a CHUNK's BITS tell E: in so many bits, with so much added.
     private static final int CELL_BITS = 32;
+    private static final long LOW_BITS = 0xFFFFFFFFL;
+
+    // How a CHUNK's BITS tell E: in so many bits, with so much added.
     private static final int SMALL_BITS = 7;
     private static final long SMALL_ADDED = 64;
     private static final int MIDDLE_BITS = 9;
@@ -61,6 +63,8 @@ public final class PointLedger {
     private static final long LARGE_ADDED = 2_048;
     private static final int WIDE_BITS = 34;
     private static final long WIDE_ADDED = 8_589_934_592L;
+
+    // So many bits of Z at once.
     private static final int VALUE_BITS = 4;
 
     private final int seriesCount;
@@ -85,7 +89,7 @@ public final class PointLedger {
         this.unpacker = new Unpacker(disk);
         this.turn = new Turn(disk, index);
         this.asking = new Asking(index, log, unpacker, this.ratio);
-        this.cursor = new Cursor(index, log, unpacker);
+        this.cursor = new Cursor(disk, index, log);
     }
 
     public int append(int series, int time, int value) {
@@ -621,7 +625,7 @@ public final class PointLedger {
 
         void addEntry(Index index, int entry) {
             long sumHigh = (long) index.at(entry, ENTRY_SUM_HIGH) << CELL_BITS;
-            long sumLow = index.at(entry, ENTRY_SUM_LOW) & 0xFFFFFFFFL;
+            long sumLow = index.at(entry, ENTRY_SUM_LOW) & LOW_BITS;
             add(index.at(entry, ENTRY_FIRST), index.at(entry, ENTRY_LAST), index.at(entry, ENTRY_POINTS),
                     index.at(entry, ENTRY_LEAST), index.at(entry, ENTRY_GREATEST), sumHigh | sumLow);
         }
@@ -794,7 +798,8 @@ public final class PointLedger {
                 case 3:
                     return readBits(LARGE_BITS) - LARGE_ADDED;
                 default:
-                    return readBits(WIDE_BITS) - WIDE_ADDED;
+                    long high = readBits(WIDE_BITS - CELL_BITS);
+                    return (high << CELL_BITS | readBits(CELL_BITS)) - WIDE_ADDED;
             }
         }
 
@@ -807,15 +812,13 @@ public final class PointLedger {
             return (z & 1) == 0 ? z >>> 1 : -(z >>> 1) - 1;
         }
 
+        /** Of 1 to 32 BITS, as more could lie in three CELLS. */
         private long readBits(int count) {
-            long bits = 0;
-            for (int b = 0; b < count; b++) {
-                int cell = disk.read(place + 2 + bitsRead / CELL_BITS);
-                int below = CELL_BITS - 1 - bitsRead % CELL_BITS;
-                bits = bits << 1 | (cell >>> below & 1);
-                bitsRead++;
-            }
-            return bits;
+            int k = place + 2 + bitsRead / CELL_BITS;
+            long twoCells = (long) disk.read(k) << CELL_BITS | (disk.read(k + 1) & LOW_BITS);
+            long fromNext = twoCells << (bitsRead % CELL_BITS);
+            bitsRead += count;
+            return fromNext >>> (2 * CELL_BITS - count);
         }
     }
 
@@ -1072,26 +1075,27 @@ public final class PointLedger {
         }
     }
 
-    /**
-     * Knows only from which TIME on its next POINT is to be sought. Behind its POINTS it is closed, for a CURSOR that
-     * stands there answers as none does.
-     */
+    /** Behind its POINTS it is closed, for a CURSOR that stands there answers as none does. */
     private static final class Cursor {
         private final Index index;
         private final Log log;
         private final Unpacker unpacker;
         private boolean isOpen = false;
         private int series = 0;
-        // A long, for behind the greatest int there is one TIME more from which on none is found.
-        private long from = 0;
+        private int from = 0;
         private int to = 0;
+        private int entry = 0;
+        private int entriesEnd = 0;
+        private int pointsLeft = 0;
+        private int block = 0;
         private int time = 0;
         private int value = 0;
 
-        Cursor(Index index, Log log, Unpacker unpacker) {
+        Cursor(Disk disk, Index index, Log log) {
             this.index = index;
             this.log = log;
-            this.unpacker = unpacker;
+            // Not the one of the others, for it stays amid a CHUNK from one call to the next.
+            this.unpacker = new Unpacker(disk);
         }
 
         void close() {
@@ -1105,11 +1109,14 @@ public final class PointLedger {
             series = ofSeries;
             from = fromTime;
             to = toTime;
+            entry = index.firstOf(ofSeries);
+            entriesEnd = index.endOf(ofSeries);
+            pointsLeft = 0;
+            block = 0;
         }
 
         boolean advance() {
             if (isOpen && (findInChunks() || findInHead()) && time <= to) {
-                from = time + 1L;
                 return true;
             }
             close();
@@ -1117,19 +1124,11 @@ public final class PointLedger {
         }
 
         private boolean findInChunks() {
-            int end = index.endOf(series);
-            for (int e = index.firstOf(series); e < end; e++) {
-                if (index.at(e, ENTRY_LAST) >= from) {
-                    return findInChunk(e);
-                }
+            if (pointsLeft == 0) {
+                openChunk();
             }
-            return false;
-        }
-
-        private boolean findInChunk(int entry) {
-            int points = index.at(entry, ENTRY_POINTS);
-            unpacker.open(index.at(entry, ENTRY_PLACE));
-            for (int p = 0; p < points; p++) {
+            while (pointsLeft > 0) {
+                pointsLeft--;
                 unpacker.step();
                 if (unpacker.time >= from) {
                     standAt(unpacker.time, unpacker.value);
@@ -1139,8 +1138,21 @@ public final class PointLedger {
             return false;
         }
 
+        /** Passes over CHUNKS without a POINT from the first TIME on; so in an opened one there always is one. */
+        private void openChunk() {
+            while (entry < entriesEnd && pointsLeft == 0) {
+                if (index.at(entry, ENTRY_LAST) >= from) {
+                    unpacker.open(index.at(entry, ENTRY_PLACE));
+                    pointsLeft = index.at(entry, ENTRY_POINTS);
+                }
+                entry++;
+            }
+        }
+
         private boolean findInHead() {
-            for (int b = 0; b < log.logged(); b++) {
+            while (block < log.logged()) {
+                int b = block;
+                block++;
                 if (log.at(b, BLOCK_SERIES) == series && log.at(b, BLOCK_TIME) >= from) {
                     standAt(log.at(b, BLOCK_TIME), log.at(b, BLOCK_VALUE));
                     return true;

@@ -8,6 +8,7 @@ public final class AskingTest {
         seekCountsAndStandsAhead();
         nextGoesThroughChunksAndHead();
         nextAtTheEdgesOfTime();
+        nextOfACursorAfterAnother();
         nextWithoutPoints();
         cursorsGoWithWrites();
         cursorsStayWithQuestions();
@@ -101,6 +102,19 @@ public final class AskingTest {
         }
     }
 
+    private static void nextOfACursorAfterAnother() {
+        for (int steps = 0; steps <= 12; steps++) {
+            PointLedger x = filled();
+            x.seek(1, 0, 100);
+            for (int k = 0; k < steps; k++) {
+                x.next();
+            }
+            walk(x, 40, 100);
+            walk(x, 85, 100);
+            walk(x, 0, 10);
+        }
+    }
+
     private static void nextWithoutPoints() {
         PointLedger x = new PointLedger(1, 2, 2);
         CHECKS.no("next() without a cursor", x.next());
@@ -145,10 +159,11 @@ public final class AskingTest {
         x.seek(1, 5, 95);
         x.next();
         x.next();
-        x.aggCount(1, 15, 75);
+        x.aggCount(1, 5, 65);
         x.aggMin(0, 15, 75);
-        x.aggMax(1, 15, 75);
-        x.aggSum(1, 15, 75);
+        x.aggMax(1, 45, 65);
+        x.aggSum(1, 45, 65);
+        CHECKS.same("the questions unpack other chunks", x.look(5), 2);
         x.aggCount(7, 0, 0);
         x.look(3);
         x.cell(3);
