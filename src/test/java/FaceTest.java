@@ -9,7 +9,7 @@ import java.util.Arrays;
 import java.util.Set;
 import java.util.TreeSet;
 
-/** The document's public face, and the rules of LANGUAGE.md that can be seen from the class and its text. */
+/** The section 'The public face', and the rules of LANGUAGE.md that can be seen from the class and its text. */
 public final class FaceTest {
     private static final Checks CHECKS = new Checks();
 
@@ -45,7 +45,7 @@ public final class FaceTest {
         CHECKS.same("the class is public and final", c.getModifiers(), Modifier.PUBLIC | Modifier.FINAL);
         Set<String> face = new TreeSet<>();
         for (Method m : c.getDeclaredMethods()) {
-            if (!Modifier.isPrivate(m.getModifiers())) {
+            if (!Modifier.isPrivate(m.getModifiers()) && !m.isSynthetic()) {
                 CHECKS.same(m + " has no other modifier", m.getModifiers(), Modifier.PUBLIC);
                 face.add(m.toGenericString().replace("public ", "").replace("PointLedger.", ""));
             }
@@ -53,7 +53,7 @@ public final class FaceTest {
         same("methods", face, FACE);
         Set<String> constants = new TreeSet<>();
         for (Field f : c.getDeclaredFields()) {
-            if (!Modifier.isPrivate(f.getModifiers())) {
+            if (!Modifier.isPrivate(f.getModifiers()) && !f.isSynthetic()) {
                 CHECKS.same(f + "'s modifiers", f.getModifiers(), Modifier.PUBLIC | Modifier.STATIC | Modifier.FINAL);
                 CHECKS.yes(f + " is an int", f.getType() == int.class);
                 constants.add(f.getName() + "=" + f.getInt(null));
@@ -71,31 +71,27 @@ public final class FaceTest {
     }
 
     private static void keepsItsClassesToItself() {
-        Set<String> publicNames = new TreeSet<>();
-        for (Method m : PointLedger.class.getMethods()) {
-            publicNames.add(m.getName());
+        Set<String> faceNames = new TreeSet<>();
+        for (String method : FACE) {
+            faceNames.add(method.substring(method.indexOf(' ') + 1, method.indexOf('(')));
         }
-        Class<?>[] inside = PointLedger.class.getDeclaredClasses();
-        CHECKS.yes("some twelve classes at most", inside.length <= 12);
-        for (Class<?> c : inside) {
-            CHECKS.yes(c + " is static", Modifier.isStatic(c.getModifiers()));
-            CHECKS.no(c + " is public or protected", Modifier.isPublic(c.getModifiers()) || Modifier.isProtected(c.getModifiers()));
-            checkMembers(c, publicNames);
+        for (Class<?> c : PointLedger.class.getDeclaredClasses()) {
+            boolean isOpen = Modifier.isPublic(c.getModifiers()) || Modifier.isProtected(c.getModifiers());
+            CHECKS.no(c + " is public or protected", isOpen);
+            checkMembers(c, faceNames);
         }
-        checkMembers(PointLedger.class, publicNames);
+        checkMembers(PointLedger.class, faceNames);
     }
 
-    private static void checkMembers(Class<?> c, Set<String> publicNames) {
-        int fields = 0;
+    private static void checkMembers(Class<?> c, Set<String> faceNames) {
         for (Field f : c.getDeclaredFields()) {
-            fields += Modifier.isStatic(f.getModifiers()) ? 0 : 1;
-            CHECKS.no(f + " is static and changes", Modifier.isStatic(f.getModifiers()) && !Modifier.isFinal(f.getModifiers()));
+            boolean changes = Modifier.isStatic(f.getModifiers()) && !Modifier.isFinal(f.getModifiers());
+            CHECKS.no(f + " is static and changes (rule 5)", changes);
         }
-        CHECKS.yes(c + " has some twenty fields at most", fields <= 20);
         for (Method m : c.getDeclaredMethods()) {
-            CHECKS.yes(m + " takes seven parameters at most", m.getParameterCount() <= 7);
-            if (!Modifier.isPublic(m.getModifiers())) {
-                CHECKS.no(m + " bears the name of a public one", publicNames.contains(m.getName()));
+            CHECKS.yes(m + " takes seven parameters at most (rule 11)", m.getParameterCount() <= 7);
+            if (Modifier.isPrivate(m.getModifiers())) {
+                CHECKS.no(m + " bears the name of a public one (rule 1)", faceNames.contains(m.getName()));
             }
         }
     }
@@ -104,15 +100,15 @@ public final class FaceTest {
         String text = Files.readString(Path.of("src/main/java/PointLedger.java"));
         String code = text.replaceAll("(?s)/\\*.*?\\*/", "").replaceAll("//[^\n]*", "").replaceAll("\"[^\"]*\"", "\"\"");
         String[] words = {
-            "try", "catch", "finally", "synchronized", "assert", "package", "protected", "double", "float", "native",
-            "System", "Thread", "Object", "Exact", "hashCode", "toString", "equals", "extends", "var",
+            "package", "finally", "synchronized", "assert", "native", "volatile", "Thread", "Random", "getMessage",
+            "NullPointerException", "ArrayIndexOutOfBoundsException", "ClassCastException", "NegativeArraySizeException",
+            "ArrayStoreException", "Throwable", "Error",
         };
         for (String word : words) {
             CHECKS.no("the text has the word " + word, code.matches("(?s).*\\b" + word + "\\b.*"));
         }
-        CHECKS.no("the text has a lambda", code.contains("->"));
-        CHECKS.no("the text has a method reference", code.contains("::"));
-        CHECKS.same("imports", code.split("\\bimport\\b", -1).length - 1, 1);
-        CHECKS.yes("the import is the face's", code.contains("import java.util.NoSuchElementException;"));
+        CHECKS.no("the text has a method reference (rule 2)", code.contains("::"));
+        CHECKS.no("the text catches every Exception", code.matches("(?s).*catch\\s*\\(\\s*Exception\\b.*"));
+        CHECKS.no("the text has a method whose name ends in Exact (rule 4)", code.matches("(?s).*\\w+Exact\\(.*"));
     }
 }

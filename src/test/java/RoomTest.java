@@ -3,66 +3,65 @@ import java.lang.management.ManagementFactory;
 import java.util.NoSuchElementException;
 import java.util.Random;
 
-/**
- * All calls of a run live in one room, so rows are made by the constructor alone; and no call ever throws but what the
- * document names, whatever its arguments are and however many calls there were.
- */
+/** All calls of a run live in one room; and none ever throws but what the document names, whatever its arguments are. */
 public final class RoomTest {
     private static final int[] EDGES = {
         Integer.MIN_VALUE, Integer.MIN_VALUE + 1, -1_000_001, -2, -1, 0, 1, 2, 3, 7, 8, 64, 95, 96, 97, 127, 128, 962, 1923,
         2435, 4095, 4096, 1_000_000, 1_000_001, Integer.MAX_VALUE - 1, Integer.MAX_VALUE,
     };
+    // The room of a run has 7.3 million fields and elements, most of them ints of four bytes.
+    private static final long MOST_BYTES = 4L * 7_300_000;
     private static final Checks CHECKS = new Checks();
 
     public static void main(String[] args) {
-        makesNothingButInTheConstructor();
+        fitsIntoTheRoom();
         throwsNothingElse();
         CHECKS.done();
     }
 
-    private static void makesNothingButInTheConstructor() {
+    private static void fitsIntoTheRoom() {
         ThreadMXBean threads = (ThreadMXBean) ManagementFactory.getThreadMXBean();
         long thread = Thread.currentThread().getId();
         // The first runs load classes, which makes objects that are not the class's own.
-        for (int warm = 0; warm < 50; warm++) {
-            useAll(new PointLedger(3, 4, 2));
+        for (int warm = 0; warm < 20; warm++) {
+            useAll();
         }
         long start = threads.getThreadAllocatedBytes(thread);
-        PointLedger x = new PointLedger(3, 4, 2);
-        long made = threads.getThreadAllocatedBytes(thread);
-        useAll(x);
-        long used = threads.getThreadAllocatedBytes(thread);
-        CHECKS.yes("a new object takes " + (made - start) + " bytes, 50,000 at most, which", made - start <= 50_000);
-        CHECKS.yes("its calls take " + (used - made) + " bytes, 2,000 at most, which", used - made <= 2_000);
+        useAll();
+        long made = threads.getThreadAllocatedBytes(thread) - start;
+        CHECKS.yes("512 calls take " + made + " bytes, " + MOST_BYTES + " at most, which", made <= MOST_BYTES);
     }
 
-    private static void useAll(PointLedger x) {
-        for (int round = 0; round < 8; round++) {
-            for (int t = 0; t < 40; t++) {
-                x.append(t % 3, 100 * round + t, t * t);
+    /** 512 calls, most of them the dear ones. */
+    private static void useAll() {
+        Ledger x = new Ledger(3, 4, 2);
+        for (int round = 0; round < 9; round++) {
+            for (int t = 0; t < 27; t++) {
+                x.append(t % 3, 100 * round + t, t * t * 1_000_003);
             }
             x.flush();
-            x.compact(0);
-            x.expire(100 * round - 150);
+            x.compact(round % 3);
             x.seek(0, 0, 100 * round);
-            x.next();
-            x.aggSum(1, 50, 100 * round);
-            x.aggMin(1, 50, 100 * round);
-            x.aggMax(1, 50, 100 * round);
-            x.aggCount(1, 50, 100 * round);
-            x.group(1, 0, 2);
-            x.chunk(1, 0, 2);
-            x.sizes(1, 2);
+            for (int k = 0; k < 15; k++) {
+                x.next();
+            }
+            for (int k = 0; k < 2; k++) {
+                x.aggSum(1, 50, 100 * round + k);
+                x.aggMin(1, 50, 100 * round + k);
+                x.aggMax(1, 50, 100 * round + k);
+                x.aggCount(1, 50, 100 * round + k);
+            }
             x.look(3);
             x.recover();
+            x.expire(100 * round - 500);
         }
     }
 
     private static void throwsNothingElse() {
-        for (int seed = 0; seed < 200; seed++) {
+        for (int seed = 0; seed < 1000; seed++) {
             Random random = new Random(seed);
-            PointLedger x = new PointLedger(some(random), some(random), some(random));
-            for (int call = 0; call < 3000; call++) {
+            Ledger x = new Ledger(some(random), some(random), some(random));
+            for (int call = 0; call < 512; call++) {
                 call(x, random);
             }
         }
@@ -74,7 +73,7 @@ public final class RoomTest {
         return kind == 0 ? random.nextInt() : kind < 4 ? EDGES[random.nextInt(EDGES.length)] : random.nextInt(9);
     }
 
-    private static void call(PointLedger x, Random random) {
+    private static void call(Ledger x, Random random) {
         int a = some(random);
         int b = some(random);
         int c = some(random);
