@@ -365,8 +365,7 @@ public final class PointLedger {
     }
 
     private int groupsOf(int series) {
-        // RATIO is 2 at least since the constructor, so the division is safe.
-        return (chunksOf(series) + ratio - 1) / ratio;
+        return ratio < LEAST_RATIO ? 0 : (chunksOf(series) + ratio - 1) / ratio;
     }
 
     private boolean isRising(int series, int time) {
@@ -1023,8 +1022,10 @@ public final class PointLedger {
             looks = 0;
             unpacked = 0;
             found.clear();
-            for (int first = index.firstOf(series); first < end; first += ratio) {
-                int groupEnd = Math.min(first + ratio, end);
+            // RATIO is never below 2; said here, it shows that the loop ends.
+            int step = Math.max(LEAST_RATIO, ratio);
+            for (int first = index.firstOf(series); first < end; first += step) {
+                int groupEnd = Math.min(first + step, end);
                 Summary group = summaryOf(first, groupEnd);
                 looks++;
                 if (group.isOut(from, to)) {

@@ -9,6 +9,7 @@ public final class Promise10AggCountTest {
         bothTimesBelongToIt();
         noneIfTheFirstIsAboveTheSecond();
         noPoints();
+        noneBehindOneThatHadSome();
         downAnswersDown();
         thereIsNoSuchSeries();
         refusedCallsChangeNothing();
@@ -72,6 +73,15 @@ public final class Promise10AggCountTest {
         x.expire(GREATEST);
         CHECKS.same("when all has gone", x.aggCount(0, LEAST, GREATEST), 0);
         CHECKS.same("between points", Scenes.filled().aggCount(1, 81, 89), 0);
+    }
+
+    private static void noneBehindOneThatHadSome() {
+        CHECKS.promise(10, "How many POINTS: none, whatever was answered ahead of it");
+        Ledger x = Scenes.filled();
+        for (int[] range : new int[][] {{-9, -1}, {11, 19}, {81, 89}, {101, GREATEST}, {30, 20}, {GREATEST, LEAST}}) {
+            CHECKS.same("of all ahead of it", x.aggCount(1, LEAST, GREATEST), 11);
+            CHECKS.same("from " + range[0] + " to " + range[1], x.aggCount(1, range[0], range[1]), 0);
+        }
     }
 
     private static void downAnswersDown() {

@@ -8,6 +8,7 @@ public final class Promise12AggMaxTest {
         theGreatestValue();
         theEndsOfValues();
         zeroIfThereAreNone();
+        zeroBehindOneThatHadSome();
         theStoreIsDown();
         thereIsNoSuchSeries();
         refusedCallsChangeNothing();
@@ -91,6 +92,24 @@ public final class Promise12AggMaxTest {
         y.flush();
         y.expire(GREATEST);
         CHECKS.same("when all has gone", y.aggMax(1, LEAST, GREATEST), 0);
+    }
+
+    private static void zeroBehindOneThatHadSome() {
+        CHECKS.promise(12, "0 if there are none, whatever was answered ahead of it");
+        Ledger x = Scenes.filled();
+        int[][] ranges = {{-9, -1}, {1, 9}, {11, 19}, {81, 89}, {101, GREATEST}, {30, 20}, {GREATEST, LEAST}};
+        for (int[] range : ranges) {
+            CHECKS.same("of all ahead of it", x.aggMax(1, LEAST, GREATEST), 1000);
+            CHECKS.same("from " + range[0] + " to " + range[1], x.aggMax(1, range[0], range[1]), 0);
+        }
+        Ledger y = new Ledger(2, 2, 2);
+        y.append(1, 0, -5);
+        CHECKS.same("of a value below 0 ahead of it", y.aggMax(1, LEAST, GREATEST), -5);
+        CHECKS.same("of an empty series", y.aggMax(0, LEAST, GREATEST), 0);
+        y.flush();
+        CHECKS.same("of its chunk ahead of it", y.aggMax(1, LEAST, GREATEST), -5);
+        y.expire(GREATEST);
+        CHECKS.same("when it has gone", y.aggMax(1, LEAST, GREATEST), 0);
     }
 
     private static void theStoreIsDown() {

@@ -9,6 +9,7 @@ public final class Promise13AggSumTest {
         beyondInts();
         ofGroupsBeyondInts();
         zeroIfThereAreNone();
+        zeroBehindOneThatHadSome();
         theStoreIsDown();
         thereIsNoSuchSeries();
         refusedCallsChangeNothing();
@@ -82,6 +83,15 @@ public final class Promise13AggSumTest {
         x.flush();
         x.expire(GREATEST);
         CHECKS.same("when all has gone", x.aggSum(1, LEAST, GREATEST), 0);
+    }
+
+    private static void zeroBehindOneThatHadSome() {
+        CHECKS.promise(13, "The sum of their VALUES, where there are none, whatever was answered ahead of it");
+        Ledger x = Scenes.filled();
+        for (int[] range : new int[][] {{-9, -1}, {11, 19}, {81, 89}, {101, GREATEST}, {30, 20}, {GREATEST, LEAST}}) {
+            CHECKS.same("of all ahead of it", x.aggSum(1, LEAST, GREATEST), 11 * 1000 - 550);
+            CHECKS.same("from " + range[0] + " to " + range[1], x.aggSum(1, range[0], range[1]), 0);
+        }
     }
 
     private static void theStoreIsDown() {

@@ -1,11 +1,14 @@
+import java.lang.reflect.Field;
+
 /** Promise 20: look. */
 public final class Promise20LookTest {
     private static final int LEAST = Scenes.LEAST;
     private static final int GREATEST = Scenes.GREATEST;
     private static final Checks CHECKS = new Checks();
 
-    public static void main(String[] args) {
+    public static void main(String[] args) throws ReflectiveOperationException {
         writesDoneSoFar();
+        writesGoRoundAt32Bits();
         blocksThatAreLogged();
         chunksOfAllSeries();
         cellsThatChunksHave();
@@ -48,6 +51,33 @@ public final class Promise20LookTest {
         x.crashAfter(9);
         x.recover();
         CHECKS.same("the others have none", x.look(0), 182);
+    }
+
+    private static void writesGoRoundAt32Bits() throws ReflectiveOperationException {
+        CHECKS.promise(20, "0 the WRITES done so far (going round at 32 bits)");
+        int[][] doneAndDue = {{GREATEST - 4, GREATEST}, {GREATEST - 3, LEAST}, {GREATEST, LEAST + 3}, {-4, 0}, {-1, 3}};
+        for (int[] row : doneAndDue) {
+            PointLedger x = withWritesDone(row[0]);
+            CHECKS.same("look(0)", x.look(0), row[0]);
+            CHECKS.same("append()", x.append(0, 1, 1), 0);
+            CHECKS.same("look(0) behind four more than " + row[0], x.look(0), row[1]);
+            CHECKS.same("power does not go", x.look(7), PointLedger.NONE);
+            CHECKS.yes("crashAfter(4)", x.crashAfter(4));
+            CHECKS.same("append() with four writes", x.append(0, 2, 1), 0);
+            CHECKS.same("append() with none", x.append(0, 3, 1), PointLedger.DOWN);
+            CHECKS.same("look(0) behind recover()", x.recover() + x.look(0), 2 + row[1] + 4);
+        }
+    }
+
+    /** No 512 calls make so many writes, so the count is set in the object itself. */
+    private static PointLedger withWritesDone(int count) throws ReflectiveOperationException {
+        PointLedger x = new PointLedger(1, 2, 2);
+        Field disk = PointLedger.class.getDeclaredField("disk");
+        disk.setAccessible(true);
+        Field writesDone = disk.getType().getDeclaredField("writesDone");
+        writesDone.setAccessible(true);
+        writesDone.setInt(disk.get(x), count);
+        return x;
     }
 
     private static void blocksThatAreLogged() {

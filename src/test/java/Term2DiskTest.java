@@ -15,6 +15,7 @@ public final class Term2DiskTest {
         whatStandsBehindTellsNothing();
         theLog();
         theStampIsEpochPlusOne();
+        theLogEndsWhereTheAreaBegins();
         theAreaBeginsAndEnds();
         CHECKS.done();
     }
@@ -188,6 +189,25 @@ public final class Term2DiskTest {
             x.flush();
             CHECKS.same("logged behind flush()", x.look(1), 0);
         }
+    }
+
+    private static void theLogEndsWhereTheAreaBegins() {
+        CHECKS.term(2, 15, "128 BLOCKS: the CELLS behind the last one are none, though they look like one that is LOGGED");
+        Ledger x = new Ledger(2, 64, 2);
+        x.append(0, 0, 0);
+        x.append(1, 0, 2);
+        x.flush();
+        for (int t = 1; t <= 128; t++) {
+            CHECKS.same("append()", x.append(0, t, t), 0);
+        }
+        CHECKS.cells("the last block, then series, time, value, stamp by chance", x, 2431, 0, 128, 128, 2, 0, 0, 0, 2);
+        CHECKS.same("logged", x.look(1), 128);
+        CHECKS.same("recover()", x.recover(), 130);
+        CHECKS.same("logged behind recover()", x.look(1), 128);
+        CHECKS.same("head behind recover()", x.sizes(0, 1), 128);
+        CHECKS.same("append() behind recover()", x.append(0, 129, 0), PointLedger.NO_SPACE);
+        CHECKS.same("flush() behind recover()", x.flush(), 2);
+        CHECKS.same("points", x.recover(), 130);
     }
 
     private static void theAreaBeginsAndEnds() {
