@@ -11,7 +11,9 @@ public final class Promise02AppendTest {
         thereIsNoSuchSeries();
         badSeriesComesAheadOfNoSpace();
         notRisingInTheHead();
+        notRisingInAFullLog();
         notRisingBehindChunks();
+        notRisingBehindChunksAtTheEndsOfTime();
         notRisingIsAskedOfTheSeriesAlone();
         notRisingIsAskedOfTheLastPointThatThereIs();
         withoutAPointAnyTimeIsRight();
@@ -112,6 +114,21 @@ public final class Promise02AppendTest {
         CHECKS.same("the least time behind it", x.append(0, LEAST, 2), PointLedger.NOT_RISING);
     }
 
+    private static void notRisingInAFullLog() {
+        CHECKS.promise(2, "NOT_RISING, however far back in the LOG the SERIES' last POINT lies");
+        Ledger x = new Ledger(2, 4, 2);
+        x.append(0, 1000, 0);
+        for (int b = 1; b < 128; b++) {
+            x.append(1, b, 0);
+            CHECKS.same("of block 0 behind " + b + " more", x.append(0, 1000, 0), PointLedger.NOT_RISING);
+        }
+        CHECKS.same("above it", x.append(0, 1001, 0), PointLedger.NO_SPACE);
+        Ledger y = Scenes.fullHead();
+        CHECKS.same("of the last block", y.append(0, 127, 0), PointLedger.NOT_RISING);
+        CHECKS.same("of the one ahead of it", y.append(0, 126, 0), PointLedger.NOT_RISING);
+        CHECKS.same("above the last block", y.append(0, 128, 0), PointLedger.NO_SPACE);
+    }
+
     private static void notRisingBehindChunks() {
         CHECKS.promise(2, "NOT_RISING, if the last POINT lies in a CHUNK");
         Ledger x = new Ledger(2, 2, 2);
@@ -127,6 +144,19 @@ public final class Promise02AppendTest {
         x.compact(0);
         CHECKS.same("the same time behind compact()", x.append(0, 15, 0), PointLedger.NOT_RISING);
         CHECKS.same("one above behind compact()", x.append(0, 16, 0), 0);
+    }
+
+    private static void notRisingBehindChunksAtTheEndsOfTime() {
+        CHECKS.promise(2, "NOT_RISING, if the last POINT lies in a CHUNK, at the least and the greatest TIME");
+        Ledger x = new Ledger(1, 2, 2);
+        x.append(0, LEAST, 0);
+        x.flush();
+        CHECKS.same("the least time again", x.append(0, LEAST, 0), PointLedger.NOT_RISING);
+        CHECKS.same("the greatest time behind it", x.append(0, GREATEST, 0), 0);
+        x.flush();
+        CHECKS.same("the greatest time again", x.append(0, GREATEST, 0), PointLedger.NOT_RISING);
+        CHECKS.same("the least time behind it", x.append(0, LEAST, 0), PointLedger.NOT_RISING);
+        CHECKS.same("a time between", x.append(0, 0, 0), PointLedger.NOT_RISING);
     }
 
     private static void notRisingIsAskedOfTheSeriesAlone() {

@@ -1,3 +1,5 @@
+import java.util.Arrays;
+
 /** Promise 4: compact. */
 public final class Promise04CompactTest {
     private static final int LEAST = Scenes.LEAST;
@@ -15,6 +17,7 @@ public final class Promise04CompactTest {
         theHeadIsNotTakenIn();
         epochStays();
         byHowManyThereAreFewer();
+        asManyAsOneCanTakeIn();
         noneTookInAny();
         downAnswersDown();
         thereIsNoSuchSeries();
@@ -206,6 +209,15 @@ public final class Promise04CompactTest {
         CHECKS.same("cells of chunks", x.look(3), x.chunk(0, 0, 6));
     }
 
+    private static void asManyAsOneCanTakeIn() {
+        CHECKS.promise(4, "a CHUNK takes in the next one, and the one behind that, up to 64 of one POINT each");
+        int[] ones = new int[65];
+        Arrays.fill(ones, 1);
+        compacts(64, Arrays.copyOf(ones, 64), 64);
+        compacts(64, ones, 64, 1);
+        compacts(63, Arrays.copyOf(ones, 64), 63, 1);
+    }
+
     private static Ledger apart() {
         Ledger x = new Ledger(2, 4, 2);
         Scenes.sealEach(x, 0, 3, 2, 4, 1);
@@ -326,6 +338,7 @@ public final class Promise04CompactTest {
         }
         CHECKS.same("chunks", x.look(2), 96);
         CHECKS.same("compact(1)", x.compact(1), 47);
+        CHECKS.same("place behind all 96 of two cells each", x.chunk(1, 0, 5), 2435 + 96 * 2);
         CHECKS.same("chunks left", x.look(2), 49);
         hasSizes("series 1", x, 1, 48);
         CHECKS.same("compact(0)", x.compact(0), 47);

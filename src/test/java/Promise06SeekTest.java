@@ -6,6 +6,7 @@ public final class Promise06SeekTest {
 
     public static void main(String[] args) {
         howManyTheseAre();
+        ofAFullHead();
         bothTimesBelongToIt();
         noneIfTheFirstIsAboveTheSecond();
         theCursorStandsAhead();
@@ -31,6 +32,15 @@ public final class Promise06SeekTest {
             }
         }
         CHECKS.same("seek(0, MIN, MAX)", Scenes.filled().seek(0, LEAST, GREATEST), 2);
+    }
+
+    private static void ofAFullHead() {
+        CHECKS.promise(6, "how many these are, of a HEAD of 128");
+        Ledger x = Scenes.fullHead();
+        for (int t = 0; t < 128; t++) {
+            CHECKS.same("up to " + t, x.seek(0, LEAST, t), t + 1);
+            CHECKS.same("from " + t, x.seek(0, t, GREATEST), 128 - t);
+        }
     }
 
     private static void bothTimesBelongToIt() {

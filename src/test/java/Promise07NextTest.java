@@ -9,6 +9,7 @@ public final class Promise07NextTest {
         goesFromEachTimeToEach();
         atTheEndsOfTime();
         goesThroughChunksOfManyPoints();
+        goesThroughAFullHead();
         falseIfThereIsNone();
         falseWithoutACursor();
         staysBehindThem();
@@ -106,6 +107,30 @@ public final class Promise07NextTest {
                 CHECKS.same("curTime()", x.curTime(), times[p]);
                 CHECKS.same("curVal()", x.curVal(), values[p]);
             }
+        }
+    }
+
+    private static void goesThroughAFullHead() {
+        CHECKS.promise(7, "the next of its POINTS, in a HEAD of 128");
+        Ledger x = Scenes.fullHead();
+        Ledger y = Scenes.fullHead();
+        x.seek(0, LEAST, GREATEST);
+        y.seek(0, LEAST, GREATEST);
+        for (int t = 0; t < 128; t++) {
+            CHECKS.yes("next() to " + t, x.next() && y.next());
+            CHECKS.same("curTime()", x.curTime(), t);
+            CHECKS.same("curVal()", y.curVal(), Scenes.ofFullHead(t));
+        }
+        CHECKS.no("next() behind it", x.next());
+        for (int s = 0; s < 2; s++) {
+            Ledger z = Scenes.fullLog();
+            z.seek(s, LEAST, GREATEST);
+            for (int t = 0; t < 64; t++) {
+                CHECKS.yes("next() to " + t + " of series " + s, z.next());
+                CHECKS.same("curTime() of series " + s, z.curTime(), t);
+                CHECKS.same("curVal() of series " + s, z.curVal(), 2 * t + s);
+            }
+            CHECKS.no("next() behind series " + s, z.next());
         }
     }
 

@@ -6,6 +6,7 @@ public final class Promise10AggCountTest {
 
     public static void main(String[] args) {
         howManyPoints();
+        ofAFullHead();
         bothTimesBelongToIt();
         noneIfTheFirstIsAboveTheSecond();
         noPoints();
@@ -29,6 +30,15 @@ public final class Promise10AggCountTest {
             }
         }
         CHECKS.same("aggCount(0, MIN, MAX)", Scenes.filled().aggCount(0, LEAST, GREATEST), 2);
+    }
+
+    private static void ofAFullHead() {
+        CHECKS.promise(10, "How many POINTS a SERIES has, in a HEAD of 128");
+        Ledger x = Scenes.fullHead();
+        for (int t = 0; t < 128; t++) {
+            CHECKS.same("up to " + t, x.aggCount(0, LEAST, t), t + 1);
+            CHECKS.same("from " + t, x.aggCount(0, t, GREATEST), 128 - t);
+        }
     }
 
     private static void bothTimesBelongToIt() {

@@ -6,6 +6,7 @@ public final class Promise11AggMinTest {
 
     public static void main(String[] args) {
         theLeastValue();
+        ofAFullHead();
         theEndsOfValues();
         zeroIfThereAreNone();
         zeroBehindOneThatHadSome();
@@ -57,6 +58,18 @@ public final class Promise11AggMinTest {
                 }
                 CHECKS.same("aggMin(1, " + from + ", " + to + ")", x.aggMin(1, from, to), due);
             }
+        }
+    }
+
+    private static void ofAFullHead() {
+        CHECKS.promise(11, "The least VALUE of these, in a HEAD of 128");
+        Ledger x = Scenes.fullHead();
+        int due = Scenes.ofFullHead(0);
+        for (int t = 0; t < 128; t++) {
+            due = Math.min(due, Scenes.ofFullHead(t));
+            CHECKS.same("up to " + t, x.aggMin(0, LEAST, t), due);
+            int last = Math.min(Scenes.ofFullHead(127), Scenes.ofFullHead(Math.max(t, 126)));
+            CHECKS.same("from " + t, x.aggMin(0, t, GREATEST), last);
         }
     }
 

@@ -6,6 +6,7 @@ public final class Promise12AggMaxTest {
 
     public static void main(String[] args) {
         theGreatestValue();
+        ofAFullHead();
         theEndsOfValues();
         zeroIfThereAreNone();
         zeroBehindOneThatHadSome();
@@ -57,6 +58,18 @@ public final class Promise12AggMaxTest {
                 }
                 CHECKS.same("aggMax(1, " + from + ", " + to + ")", x.aggMax(1, from, to), due);
             }
+        }
+    }
+
+    private static void ofAFullHead() {
+        CHECKS.promise(12, "The greatest VALUE of these, in a HEAD of 128");
+        Ledger x = Scenes.fullHead();
+        int due = Scenes.ofFullHead(0);
+        for (int t = 0; t < 128; t++) {
+            due = Math.max(due, Scenes.ofFullHead(t));
+            CHECKS.same("up to " + t, x.aggMax(0, LEAST, t), due);
+            int last = Math.max(Scenes.ofFullHead(127), Scenes.ofFullHead(Math.max(t, 126)));
+            CHECKS.same("from " + t, x.aggMax(0, t, GREATEST), last);
         }
     }
 

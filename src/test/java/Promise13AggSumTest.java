@@ -6,6 +6,7 @@ public final class Promise13AggSumTest {
 
     public static void main(String[] args) {
         theSumOfTheirValues();
+        ofAFullHead();
         beyondInts();
         ofGroupsBeyondInts();
         zeroIfThereAreNone();
@@ -29,6 +30,21 @@ public final class Promise13AggSumTest {
             }
         }
         CHECKS.same("aggSum(0, MIN, MAX)", Scenes.filled().aggSum(0, LEAST, GREATEST), 11);
+    }
+
+    private static void ofAFullHead() {
+        CHECKS.promise(13, "The sum of their VALUES, in a HEAD of 128");
+        Ledger x = Scenes.fullHead();
+        long all = 0;
+        for (int t = 0; t < 128; t++) {
+            all += Scenes.ofFullHead(t);
+        }
+        long below = 0;
+        for (int t = 0; t < 128; t++) {
+            CHECKS.same("from " + t, x.aggSum(0, t, GREATEST), all - below);
+            below += Scenes.ofFullHead(t);
+            CHECKS.same("up to " + t, x.aggSum(0, LEAST, t), below);
+        }
     }
 
     private static void beyondInts() {

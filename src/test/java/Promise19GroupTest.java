@@ -8,6 +8,7 @@ public final class Promise19GroupTest {
 
     public static void main(String[] args) {
         numbersOfAGroup();
+        numbersOfAGreatGroup();
         theLastGroupMayHaveFewer();
         fromTheFirstChunkOn();
         ofTheSeriesThatIsTold();
@@ -49,6 +50,16 @@ public final class Promise19GroupTest {
         is(x, 2, 0, 1, 32, 6, 3, 70, 2);
         is(x, 2, 1, 64, 66, 3, -7, 0, 2);
         is(x, 0, 0, 3, 3, 1, 0, 0, 1);
+    }
+
+    private static void numbersOfAGreatGroup() {
+        CHECKS.promise(19, "how many POINTS a GROUP of full CHUNKS has");
+        Ledger x = new Ledger(1, 64, 8);
+        for (int flushes = 1; flushes <= 3; flushes++) {
+            Scenes.seal(x, 0, 128 * (flushes - 1), 128);
+            is(x, 0, 0, 0, 128 * flushes - 1, 128 * flushes, 0, 10 * (128 * flushes - 1), 2 * flushes);
+        }
+        CHECKS.same("groups", x.sizes(0, 2), 1);
     }
 
     private static void theLastGroupMayHaveFewer() {

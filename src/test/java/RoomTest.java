@@ -9,8 +9,8 @@ public final class RoomTest {
         Integer.MIN_VALUE, Integer.MIN_VALUE + 1, -1_000_001, -2, -1, 0, 1, 2, 3, 7, 8, 64, 95, 96, 97, 127, 128, 962, 1923,
         2435, 4095, 4096, 1_000_000, 1_000_001, Integer.MAX_VALUE - 1, Integer.MAX_VALUE,
     };
-    // The room of a run has 7.3 million fields and elements, most of them ints of four bytes.
-    private static final long MOST_BYTES = 4L * 7_300_000;
+    // The room of a run: 7.3 million fields and elements of up to 8 bytes, 600,000 objects and arrays with 16 bytes more.
+    private static final long MOST_BYTES = 8L * 7_300_000 + 16L * 600_000;
     private static final Checks CHECKS = new Checks();
 
     public static void main(String[] args) {

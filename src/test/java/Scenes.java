@@ -47,6 +47,20 @@ final class Scenes {
         return x;
     }
 
+    /** Series 0 alone has all 128 blocks: times 0 to 127. */
+    static Ledger fullHead() {
+        Ledger x = new Ledger(1, 64, 2);
+        for (int t = 0; t < BLOCKS; t++) {
+            x.append(0, t, ofFullHead(t));
+        }
+        return x;
+    }
+
+    /** The value at a time of fullHead(): the later, the farther from 0, above it and below it by turns. */
+    static int ofFullHead(int time) {
+        return time % 2 == 0 ? 100 * time + 7 : -100 * time - 7;
+    }
+
     /** Series 0 has so many chunks of two points each, times from 0 on; a value is three times its time. */
     static Ledger chunks(int count) {
         Ledger x = new Ledger(2, 2, 2);

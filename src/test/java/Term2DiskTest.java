@@ -7,6 +7,7 @@ public final class Term2DiskTest {
     public static void main(String[] args) {
         allCellsAreZeroAtFirst();
         theRoot();
+        theEpochGoesOnRising();
         theSideTurnsAtEachTurn();
         theIndexOfEachSide();
         fullIndexes();
@@ -50,6 +51,27 @@ public final class Term2DiskTest {
         CHECKS.same("epoch 3, side 0 again", x.cell(0), 6);
         x.recover();
         CHECKS.same("recover() leaves it", x.cell(0), 6);
+    }
+
+    private static void theEpochGoesOnRising() {
+        CHECKS.term(2, 3, "2 * EPOCH + SIDE, and BLOCKS whose STAMP is EPOCH + 1, as often as flush() is called");
+        Ledger x = new Ledger(1, 2, 2);
+        int side = 0;
+        for (int epoch = 1; epoch <= 100; epoch++) {
+            x.append(0, epoch, 0);
+            CHECKS.same("the stamp", x.cell(1926), epoch);
+            CHECKS.same("flush()", x.flush(), 1);
+            side = 1 - side;
+            CHECKS.same("the root", x.cell(0), 2 * epoch + side);
+            if (epoch % 50 == 0) {
+                CHECKS.same("expire() leaves the epoch", x.expire(epoch), 49);
+                side = 1 - side;
+                CHECKS.same("the root behind it", x.cell(0), 2 * epoch + side);
+                CHECKS.same("recover()", x.recover(), 1);
+                x.expire(epoch + 1);
+                side = 1 - side;
+            }
+        }
     }
 
     private static void theSideTurnsAtEachTurn() {

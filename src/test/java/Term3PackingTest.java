@@ -14,6 +14,7 @@ public final class Term3PackingTest {
         differencesThatWrap();
         greatestAndLeast();
         cellsAreFilledToTheirEnd();
+        numbersBeginAtEachBitOfACell();
         whatIsLeftOfTheLastCellIsZero();
         aMergedChunkIsMadeAnew();
         CHECKS.done();
@@ -128,6 +129,42 @@ public final class Term3PackingTest {
         int[] last = Arrays.copyOf(times, 13);
         last[12] = 61;
         packs("numbers across two cells", last, new int[13], "10 1000101 0" + "00".repeat(10) + "10 1000001 0");
+    }
+
+    private static void numbersBeginAtEachBitOfACell() {
+        CHECKS.term(3, 3, "BITS, in each CELL from the highest one down, whichever bit of it a number begins at");
+        int[] changes = {-3, 100, 1000, 1_000_000, -3000};
+        String[] told = {"10 0111101", "110 101100100", "1110 101111101000", "1111" + wide(1_000_000), "1111" + wide(-3000)};
+        for (int pairs = 0; pairs < 16; pairs++) {
+            for (int c = 0; c < changes.length; c++) {
+                begins(pairs, false, changes[c], told[c]);
+                begins(pairs, true, changes[c], told[c]);
+            }
+        }
+    }
+
+    /** The change stands behind 39 bits, so many pairs, and seven more if that is told; a pair stands behind it. */
+    private static void begins(int pairs, boolean sevenMore, int change, String told) {
+        int rise = 5000;
+        int points = 2 + pairs + (sevenMore ? 1 : 0);
+        int[] times = new int[points + 2];
+        int[] values = new int[points + 2];
+        for (int p = 1; p < points; p++) {
+            times[p] = times[p - 1] + rise;
+        }
+        values[points - 1] = sevenMore ? 1 : 0;
+        for (int p = points; p < points + 2; p++) {
+            times[p] = times[p - 1] + rise + change;
+            values[p] = values[points - 1] + LEAST;
+        }
+        String ahead = "1111" + wide(rise) + "0" + "00".repeat(pairs) + (sevenMore ? "0 1 0010 0" : "");
+        String value = "1 1111 1 1111 1 1111 1 1111 1 1111 1 1111 1 1111 1 1111 0";
+        packs("E " + change + " behind " + points + " points", times, values, ahead + told + value + "00");
+    }
+
+    private static String wide(int change) {
+        String bits = Long.toBinaryString(change + 8_589_934_592L);
+        return "0".repeat(34 - bits.length()) + bits;
     }
 
     private static void whatIsLeftOfTheLastCellIsZero() {

@@ -9,10 +9,12 @@ public final class Term5AskingTest {
         aGroupThatIsOut();
         aGroupThatIsIn();
         aGroupThatIsNeither();
+        eachEntryIsLookedAt();
         aChunkThatIsOut();
         aChunkThatIsIn();
         aChunkThatIsNeither();
         theLastGroupHasFewer();
+        fromEachTimeToEach();
         theFirstIsAboveTheSecond();
         theHeadIsNotLookedAt();
         anotherSeriesIsNotLookedAt();
@@ -101,6 +103,32 @@ public final class Term5AskingTest {
         CHECKS.same("unpacked", y.look(5), 0);
     }
 
+    private static void eachEntryIsLookedAt() {
+        CHECKS.term(5, 10, "each ENTRY is looked at, those ahead of the TIMES asked for and those behind them too");
+        for (int ratio = 2; ratio <= 8; ratio++) {
+            Ledger x = spaced(ratio, ratio);
+            for (int k = 0; k < ratio; k++) {
+                x.aggCount(0, 10 * k + 1, 10 * k + 3);
+                CHECKS.same("looks amid chunk " + k + " of " + ratio, x.look(4), 1 + ratio);
+                CHECKS.same("unpacked amid chunk " + k + " of " + ratio, x.look(5), 1);
+                x.aggCount(0, 10 * k, 10 * k + 4);
+                CHECKS.same("looks where chunk " + k + " of " + ratio + " is in", x.look(4), 1 + ratio);
+                CHECKS.same("unpacked where chunk " + k + " of " + ratio + " is in", x.look(5), 0);
+            }
+        }
+    }
+
+    /** Series 0 has so many chunks, chunk k of the times 10 * k and 10 * k + 4. */
+    private static Ledger spaced(int chunks, int ratio) {
+        Ledger x = new Ledger(1, 2, ratio);
+        for (int k = 0; k < chunks; k++) {
+            x.append(0, 10 * k, k);
+            x.append(0, 10 * k + 4, -k);
+        }
+        x.flush();
+        return x;
+    }
+
     private static void aChunkThatIsOut() {
         CHECKS.term(5, 10, "A CHUNK is OUT, if its last TIME is below the first one asked for or its first TIME above the second one");
         Ledger x = Scenes.filled();
@@ -156,6 +184,42 @@ public final class Term5AskingTest {
         x.aggCount(0, 5, 8);
         CHECKS.same("both neither", x.look(4), 7);
         CHECKS.same("both neither: two are unpacked", x.look(5), 2);
+    }
+
+    private static void fromEachTimeToEach() {
+        CHECKS.term(5, 20, "LOOKS are the GROUPS and ENTRIES that were looked at, UNPACKED the CHUNKS that were unpacked");
+        int chunks = 9;
+        for (int ratio = 2; ratio <= 8; ratio += 3) {
+            for (int from = -1; from <= 10 * chunks; from++) {
+                Ledger x = spaced(chunks, ratio);
+                for (int to = -1; to <= 10 * chunks; to++) {
+                    x.aggCount(0, from, to);
+                    int due = looksAndUnpacked(chunks, ratio, from, to);
+                    String range = " of ratio " + ratio + " from " + from + " to " + to;
+                    CHECKS.same("looks" + range, x.look(4), due / 100);
+                    CHECKS.same("unpacked" + range, x.look(5), due % 100);
+                }
+            }
+        }
+    }
+
+    /** What is due of spaced(): a hundred for each look, one for each chunk that is unpacked. */
+    private static int looksAndUnpacked(int chunks, int ratio, int from, int to) {
+        int due = 0;
+        for (int first = 0; first < chunks; first += ratio) {
+            int last = Math.min(first + ratio, chunks) - 1;
+            due += 100;
+            for (int k = first; k <= last && isNeither(10 * first, 10 * last + 4, from, to); k++) {
+                due += isNeither(10 * k, 10 * k + 4, from, to) ? 101 : 100;
+            }
+        }
+        return due;
+    }
+
+    private static boolean isNeither(int first, int last, int from, int to) {
+        boolean isOut = last < from || first > to;
+        boolean isIn = first >= from && last <= to;
+        return !isOut && !isIn;
     }
 
     private static void theFirstIsAboveTheSecond() {
